@@ -434,11 +434,31 @@ public final class ForceFrames {
         int q = v / 64 % 6;
         int r = v / 512 % 6;
         switch (v % 8) {
-            case 0: frame.tryJoint(p, q); break;
-            case 5: frame.tryMove(p, q, r); break;
-            case 6: frame.tryOut(p); break;
-            case 7: frame.tryWeight(p, q + r - 5); break;
-            default: frame.tryBar(p, q); break;
+            case 0:
+                if (frame.refuseJoint(p, q) == FINE) {
+                    frame.putJoint(p, q);
+                }
+                break;
+            case 5:
+                if (frame.refuseMove(p, q, r) == FINE) {
+                    frame.putAt(p, q, r);
+                }
+                break;
+            case 6:
+                if (frame.hasBar(p)) {
+                    frame.takeOut(p);
+                }
+                break;
+            case 7:
+                if (frame.refuseWeight(p, q + r - 5) == FINE) {
+                    frame.weights[p] = q + r - 5;
+                }
+                break;
+            default:
+                if (frame.refuseBar(p, q) == FINE) {
+                    frame.putBar(p, q);
+                }
+                break;
         }
     }
 
@@ -468,8 +488,8 @@ public final class ForceFrames {
         boolean noneIsZero = true;
         boolean noneIsBelow = true;
         for (int k = 0; k < frame.bars; k++) {
-            noneIsZero &= items[first + k] != 0;
-            noneIsBelow &= items[first + k] >= 0;
+            noneIsZero = noneIsZero && items[first + k] != 0;
+            noneIsBelow = noneIsBelow && items[first + k] >= 0;
         }
         return asBit(isAtRest(items, first))
             + 2 * asBit(noneIsZero)
@@ -735,36 +755,6 @@ public final class ForceFrames {
             }
         }
 
-        void tryJoint(int px, int py) {
-            if (refuseJoint(px, py) == FINE) {
-                putJoint(px, py);
-            }
-        }
-
-        void tryMove(int j, int px, int py) {
-            if (refuseMove(j, px, py) == FINE) {
-                putAt(j, px, py);
-            }
-        }
-
-        void tryBar(int a, int b) {
-            if (refuseBar(a, b) == FINE) {
-                putBar(a, b);
-            }
-        }
-
-        void tryOut(int k) {
-            if (hasBar(k)) {
-                takeOut(k);
-            }
-        }
-
-        void tryWeight(int j, int v) {
-            if (refuseWeight(j, v) == FINE) {
-                weights[j] = v;
-            }
-        }
-
         boolean isTaken(int px, int py) {
             for (int j = 0; j < joints; j++) {
                 if (x[j] == px && y[j] == py) {
@@ -800,8 +790,8 @@ public final class ForceFrames {
         }
 
         /**
-         * Two BARS with a JOINT in common need no test of their own: if they have more in common, the
-         * end of one lies on the other.
+         * Two BARS with a JOINT in common need no test of their own, since a side of it is 0: if they
+         * have more in common, the end of one lies on the other.
          */
         private boolean isClear(int a, int b) {
             for (int j = 0; j < joints; j++) {
@@ -810,7 +800,9 @@ public final class ForceFrames {
                 }
             }
             for (int k = 0; k < bars; k++) {
-                if (isCrossing(a, b, low[k], high[k])) {
+                int c = low[k];
+                int d = high[k];
+                if (side(a, b, c) * side(a, b, d) < 0 && side(c, d, a) * side(c, d, b) < 0) {
                     return false;
                 }
             }
@@ -823,11 +815,6 @@ public final class ForceFrames {
             int bx = x[b] - px;
             int by = y[b] - py;
             return ax * by - ay * bx == 0 && ax * bx + ay * by < 0;
-        }
-
-        /** A common JOINT makes one side 0, so BARS that only meet there are not crossing. */
-        private boolean isCrossing(int a, int b, int c, int d) {
-            return side(a, b, c) * side(a, b, d) < 0 && side(c, d, a) * side(c, d, b) < 0;
         }
 
         private int side(int a, int b, int c) {
@@ -873,6 +860,7 @@ public final class ForceFrames {
     private static final class Stresses {
         int leads;
         int bars;
+        int equations;
         long below = 1;
         final long[] numbers = new long[MOST_BARS * MOST_BARS];
         final long[] sums = new long[MOST_BARS];
@@ -881,6 +869,7 @@ public final class ForceFrames {
 
         void solve(Frame frame) {
             bars = frame.bars;
+            equations = 2 * frame.joints;
             fillGrid(frame);
             reduce();
             listStresses();
@@ -978,7 +967,7 @@ public final class ForceFrames {
         }
 
         private int rowWith(int k, int first) {
-            for (int row = first; row < 2 * MOST_JOINTS; row++) {
+            for (int row = first; row < equations; row++) {
                 if (grid[row * MOST_BARS + k] != 0) {
                     return row;
                 }
@@ -996,7 +985,7 @@ public final class ForceFrames {
 
         private void clearColumn(int k, int pivot) {
             long lead = grid[pivot * MOST_BARS + k];
-            for (int row = 0; row < 2 * MOST_JOINTS; row++) {
+            for (int row = 0; row < equations; row++) {
                 long factor = grid[row * MOST_BARS + k];
                 for (int i = 0; i < bars && row != pivot && below != 0; i++) {
                     int cell = row * MOST_BARS + i;

@@ -1,16 +1,19 @@
 import java.util.ArrayList;
+import java.util.Arrays;
+import java.util.Collections;
 import java.util.List;
 import java.util.Random;
 
 /** Runs of calls on the program and on the model, told by a seed: each answer is the same. */
 public final class ModelTest {
-    private static final int RUNS = Integer.getInteger("runs", 150);
+    private static final int RUNS = Integer.getInteger("runs", 300);
     private static final int CALLS = 512;
     private static final String[] TEXTS = {
         "00,50,05,11;01,12,02,03,13,23", "00,50,05,11,22;01,12,02,03,13,23,34,14,24",
         "00,50,55,05,22;01,12,23,30,04,14,24,34", "00,50,05,11,31,13;01,12,02,34,45,35,03,14,25",
         "00,10,20;01,12", "22,42,24,02,20,33;01,02,03,04,05", "00,50,25,24,21;01,12,02,03,13,23,34,04,14",
         "02,52,20,25,22;04,14,24,34,02,12,13,03", "00,10,05,15;01,23", "10,43,04,12,31;01,12,20,03,13,23,14",
+        "00,21,12,11;01,12,20,03,13,23",
     };
     private static final Check CHECK = new Check();
 
@@ -61,13 +64,13 @@ public final class ModelTest {
 
     private void act() {
         int dice = random.nextInt(100);
-        if (dice < 30) {
+        if (dice < 15) {
             change();
-        } else if (dice < 40) {
+        } else if (dice < 18) {
             tell();
-        } else if (dice < 60) {
+        } else if (dice < 47) {
             askFrame();
-        } else if (dice < 80) {
+        } else if (dice < 77) {
             askFaces();
         } else {
             useSheets();
@@ -111,8 +114,11 @@ public final class ModelTest {
 
     private void tell() {
         StringBuilder text = new StringBuilder();
-        if (random.nextInt(3) > 0) {
-            text.append(TEXTS[random.nextInt(TEXTS.length)]);
+        int dice = random.nextInt(6);
+        if (dice < 2) {
+            text.append(shuffled(TEXTS[random.nextInt(TEXTS.length)]));
+        } else if (dice < 4) {
+            text.append(crowded());
         } else {
             int joints = random.nextInt(7);
             for (int i = 0; i <= joints; i++) {
@@ -141,6 +147,49 @@ public final class ModelTest {
         if (random.nextInt(30) > 0) {
             due("read", x.read(), model.read());
         }
+    }
+
+    /** The same frame with its bars in another order: others lead. */
+    private String shuffled(String text) {
+        int cut = text.indexOf(';') + 1;
+        List<String> bars = Arrays.asList(text.substring(cut).split(","));
+        Collections.shuffle(bars, random);
+        return text.substring(0, cut) + String.join(",", bars);
+    }
+
+    /** Bars in any order, as many as can stand: frames that have stresses. */
+    private String crowded() {
+        List<List<Integer>> joints = new ArrayList<>();
+        int least = random.nextInt(3) + 4;
+        while (joints.size() < least) {
+            List<Integer> place = List.of(random.nextInt(6), random.nextInt(6));
+            if (!joints.contains(place)) {
+                joints.add(place);
+            }
+        }
+        List<List<Integer>> pairs = new ArrayList<>();
+        for (int b = 0; b < least; b++) {
+            for (int a = 0; a < b; a++) {
+                pairs.add(List.of(a, b));
+            }
+        }
+        Collections.shuffle(pairs, random);
+        List<List<Integer>> bars = new ArrayList<>();
+        for (List<Integer> pair : pairs) {
+            bars.add(pair);
+            if (bars.size() > 9 || !Model.plain(joints, bars)) {
+                bars.remove(bars.size() - 1);
+            }
+        }
+        return figures(joints) + ";" + figures(bars);
+    }
+
+    private static String figures(List<List<Integer>> pairs) {
+        List<String> all = new ArrayList<>();
+        for (List<Integer> pair : pairs) {
+            all.add("" + pair.get(0) + pair.get(1));
+        }
+        return String.join(",", all);
     }
 
     private void askFrame() {
@@ -225,7 +274,7 @@ public final class ModelTest {
             common = Model.Q.of(common.times(q.below().longValueExact() / common.above().gcd(q.below()).longValueExact()).above().longValueExact());
         }
         for (int k = 0; k < row.length && calls.size() < CALLS; k++) {
-            long v = row[k].times(common).above().longValueExact();
+            long v = row[k].times(common).above().longValueExact() + (random.nextInt(30) == 0 ? 1 : 0);
             due("item " + s + " " + lane + " " + (i + k) + " " + v, x.item(s, lane, i + k, v), model.item(s, lane, i + k, v));
         }
         due("what " + s + " " + lane + " " + i, x.what(s, lane, i), model.what(s, lane, i));

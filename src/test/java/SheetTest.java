@@ -43,6 +43,18 @@ public final class SheetTest {
         return all.toString();
     }
 
+    /** In a frame whose STRESSES are all v, v, v, -3 v, -3 v, -3 v the row of an item tells what it is. */
+    private static boolean isExactly(ForceFrames x, int sheet, int lane, int i, int v) {
+        x.image();
+        Check.tell(x, "00,21,12,11;01,12,02,03,13,23");
+        x.sheet(3, lane, 6);
+        put(x, 3, lane, 0, 0, v, v, -3 * v, -3 * v, -3 * v);
+        x.copy(sheet, i, 3, 0, 1);
+        boolean is = (x.what(3, lane, 0) & 1) == 1;
+        x.restore();
+        return is;
+    }
+
     private static void dueSigns(String call, String got, String want) {
         CHECK.holds(call + " left " + got + ", due is " + want, got.equals(want));
     }
@@ -106,6 +118,8 @@ public final class SheetTest {
         y.weight(0, 0);
         y.weight(1, -2);
         due("STRESS 1 of THE STRESS", y.what(2, 0, 15), 1 + 8);
+        put(y, 2, 0, 15, 0, 1, 0, 0, 1, 1, -3, -3, -2);
+        due("0 where it is 0, else not alike", y.what(2, 0, 15), 0);
         put(y, 2, 0, 15, 1, 1, 1, -5, -1, -1, -2, -2, -2);
         due("both", y.what(2, 0, 15), 1 + 2);
     }
@@ -135,6 +149,10 @@ public final class SheetTest {
             due("film most", x.film(lane, lane, MAX), -13);
             due("film cast", x.film(lane, (lane + 1) % 4, 0), -12);
             dueSigns("film refused", signs(x, lane, lane, 9), "+0+++---+");
+        }
+        for (int k = 0; k < 7; k++) {
+            int sign = k == 0 ? 0 : k < 4 ? 1 : -1;
+            CHECK.holds("film of bar " + k + " is " + sign, isExactly(x, 0, 0, 1 + k, sign));
         }
         x.weight(0, -4);
         due("film turned", x.film(0, 0, 0), 7);
