@@ -330,8 +330,7 @@ public final class ForceFrames {
             return no;
         }
         Row row = rows[sheet];
-        // Where there are no BARS no item is touched, so no place of one can be wrong.
-        if (frame.bars > 0 && !row.holds(i, frame.bars)) {
+        if (!row.holds(i, frame.bars)) {
             return INDEX;
         }
         if (!row.isSmall(i, frame.bars)) {

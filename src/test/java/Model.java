@@ -803,13 +803,10 @@ final class Model {
         if (no != 0) {
             return no;
         }
-        long[] row = new long[m()];
-        for (int k = 0; k < m(); k++) {
-            if ((long) i + k < 0 || (long) i + k >= sheets[sheet].length) {
-                return INDEX;
-            }
-            row[k] = sheets[sheet][i + k];
+        if (!in(i, 0, sheets[sheet].length - m())) {
+            return INDEX;
         }
+        long[] row = Arrays.copyOfRange(sheets[sheet], i, i + m());
         for (long v : row) {
             if (v < -99 || v > 99) {
                 return NOT;

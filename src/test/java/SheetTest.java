@@ -11,6 +11,7 @@ public final class SheetTest {
 
     public static void main(String[] args) {
         promise29What();
+        promise29WhatPlaces();
         promise29WhatOfNone();
         promise30Film();
         promise31Sheet();
@@ -124,15 +125,55 @@ public final class SheetTest {
         due("both", y.what(2, 0, 15), 1 + 2);
     }
 
-    /** Only film and copy are told to look at the place of no items. */
+    /** INDEX stands in the promise without a condition, so the place of no items is looked at too. */
     private static void promise29WhatOfNone() {
         ForceFrames x = Check.frameOf("00,10");
-        due("of none: nothing", x.what(0, 0, 0), -11);
+        due("of none: nothing", x.what(0, 0, 9), -11);
         x.sheet(0, 0, 2);
-        due("of none: cast", x.what(0, 1, 0), -12);
-        due("of none", x.what(0, 0, 2), 15);
-        due("of none, anywhere", x.what(0, 0, 3), 15);
-        due("of none, below", x.what(0, 0, -1), 15);
+        due("of none: bad lane", x.what(0, 4, 9), -1);
+        due("of none: cast", x.what(0, 1, 9), -12);
+        due("of none, first", x.what(0, 0, 0), 15);
+        due("of none, last", x.what(0, 0, 1), 15);
+        due("of none, just as many", x.what(0, 0, 2), 15);
+        due("of none, above", x.what(0, 0, 3), -13);
+        due("of none, most", x.what(0, 0, MAX), -13);
+        due("of none, below", x.what(0, 0, -1), -13);
+        due("of none, least", x.what(0, 0, MIN), -13);
+        put(x, 0, 0, 0, 100, -100);
+        due("of none, no item is looked at", x.what(0, 0, 0), 15);
+        ForceFrames none = new ForceFrames();
+        for (int lane = 0; lane < 4; lane++) {
+            none.sheet(lane, lane, 0);
+            due("an empty row, just as many", none.what(lane, lane, 0), 15);
+            due("an empty row, above", none.what(lane, lane, 1), -13);
+            due("an empty row, below", none.what(lane, lane, -1), -13);
+            none.sheet(lane, lane, 24);
+            due("the longest row, just as many", none.what(lane, lane, 24), 15);
+            due("the longest row, above", none.what(lane, lane, 25), -13);
+        }
+    }
+
+    private static void promise29WhatPlaces() {
+        ForceFrames x = Check.frameOf(WHEEL3);
+        x.sheet(0, 1, 6);
+        due("as many items as BARS", x.what(0, 1, 0), 13);
+        due("one too few behind", x.what(0, 1, 1), -13);
+        due("none behind", x.what(0, 1, 6), -13);
+        due("above how many there are", x.what(0, 1, 7), -13);
+        due("below", x.what(0, 1, -1), -13);
+        x.sheet(0, 1, 5);
+        due("a row shorter than the BARS", x.what(0, 1, 0), -13);
+        x.sheet(0, 1, 0);
+        due("a row of none", x.what(0, 1, 0), -13);
+        x.out(5);
+        due("a row of none, fewer BARS", x.what(0, 1, 0), -13);
+        for (int k = 4; k >= 0; k--) {
+            x.out(k);
+        }
+        due("a row of none, all BARS out", x.what(0, 1, 0), 15);
+        due("all BARS out, above", x.what(0, 1, 1), -13);
+        x.undo();
+        due("a BAR is back", x.what(0, 1, 0), -13);
     }
 
     private static void promise30Film() {
