@@ -178,6 +178,9 @@ public final class DoneEdgeTest {
             "seed " + seedBefore(48L * 65536) + " = 1 | drift 1 = 0 | at 0 0 = 0 | at 0 1 = 0",
             "seed " + seedBefore(320L * 65536) + " = 1 | drift 1 = 0 | at 0 0 = 4 | at 0 1 = 5",
             "seed " + seedBefore(384L * 65536) + " = 1 | drift 1 = 0 | at 0 0 = 0 | at 0 1 = 0",
+            // 3077 is 6 times 512, and 5: move(0, 0, 0). 3061 is not yet 6 times 512: move(4, 5, 5).
+            "joint 3 3 = 0 | seed " + seedBefore(3077L * 65536) + " = 1 | drift 1 = 0 | at 0 0 = 0 | at 0 1 = 0",
+            "tell <00,10,20,30,40> = 0 | seed " + seedBefore(3061L * 65536) + " = 1 | drift 1 = 0 | at 4 0 = 5 | at 4 1 = 5",
             "joint 3 3 = 0 | seed " + seedBefore((5L + 2560) * 65536) + " = 1 | drift 1 = 0 | at 0 0 = 3 | at 0 1 = 3",
             "joint 3 3 = 0 | " + turn(MOVE, 0, 4, 5) + " = 0 | at 0 0 = 4 | at 0 1 = 5");
     }
@@ -189,7 +192,9 @@ public final class DoneEdgeTest {
             "tell <00,10,01> = 0 | " + turn(2, 0, 1, 0) + " = 1 | " + turn(3, 0, 2, 0) + " = 2 | " + turn(3, 0, 2, 0) + " = 2",
             "tell <00,10,01> = 0 | " + turn(MOVE, 2, 5, 4) + " = 0 | at 2 0 = 5 | at 2 1 = 4 | " + turn(MOVE, 0, 0, 5) + " = 0 | at 0 1 = 5",
             FULL_FRAME + turn(OUT, 0, 0, 0) + " = 8 | of 0 0 = 1 | of 0 1 = 2 | " + turn(OUT, 5, 1, 1) + " = 7 | of 5 0 = 1 | of 5 1 = 4",
-            turn(WEIGHT, 0, 0, 0) + " = 0 | weight 0 -5 = -2 | " + turn(WEIGHT, 5, 5, 5) + " = 0 | weight 5 5 = -2 | " + turn(WEIGHT, 0, 5, 0) + " = 0 | weight 0 0 = -2");
+            turn(WEIGHT, 0, 0, 0) + " = 0 | weight 0 -5 = -2 | " + turn(WEIGHT, 5, 5, 5) + " = 0 | weight 5 5 = -2 | " + turn(WEIGHT, 0, 5, 0) + " = 0 | weight 0 0 = -2",
+            // Up from 0 by just 1, down by just 1, and back to 0 by the least q with the greatest r.
+            turn(WEIGHT, 1, 5, 1) + " = 0 | weight 1 1 = -2 | " + turn(WEIGHT, 2, 1, 3) + " = 0 | weight 2 -1 = -2 | " + turn(WEIGHT, 1, 0, 5) + " = 0 | weight 1 0 = -2");
     }
 
     /** Behind each refused turn the frame and the weights are as they were, and THE DRAW has gone on. */
@@ -235,6 +240,9 @@ public final class DoneEdgeTest {
             WHEEL3 + "weight 0 4 = 10 | tell <55> = 0 | seed 6 = 1 | undo = 2 | count 0 = 4 | count 1 = 6 | pull 0 0 = 4 | seed 1 = 1",
             "drift 1 | seed 6 = 1103527590 | undo = 0 | seed 1 = 1",
             "drift 3 | undo = 2 | undo = 1 | seed 1 = 1103527590 | undo = 0 | seed 1 = 1",
+            // What comes of the frame is asked on both sides of the step.
+            WHEEL3 + "count 2 = 1 | out 0 = 5 | count 2 = 0 | count 5 = 3 | undo = 1 | count 2 = 1 | count 5 = 4 | pull 5 0 = 5 | height 3 0 = 5",
+            WHEEL3 + "pull 5 0 = 5 | weight 0 -9 = 10 | pull 5 0 = 15 | undo = 1 | pull 5 0 = 5 | pull 5 1 = 3 | pull 5 2 = 2",
             // Neither THE TAPE nor SHEETS nor an IMAGE are undone.
             "weight 0 4 = 10 | type 48 = 1 | sheet 2 1 3 = 3 | image = 1 | undo = 0 | type 48 = 2 | drop 2 = 3 | restore = 1 | weight 0 4 = -2 | undo = 0");
     }
@@ -259,6 +267,8 @@ public final class DoneEdgeTest {
         EDGES.edge("All is as it was then: 1. NONE: there is none.",
             "restore = -4 | joint 0 0 = 0 | restore = -4 | count 0 = 1 | count 8 = 1",
             "joint 0 0 = 0 | image = 1 | restore = 1 | restore = 1 | count 8 = 1 | lose 0 = 0 | restore = 1 | count 0 = 1 | undo = 0 | restore = 1 | count 0 = 1 | count 8 = 1",
+            WHEEL3 + "image = 1 | lose 3 = 3 | count 2 = 0 | count 5 = 2 | fail 5 0 = 1 | restore = 1 | count 2 = 1 | count 5 = 4 | fail 5 0 = 7 | height 3 0 = 5",
+            WHEEL3 + "image = 1 | weight 0 0 = 10 | pull 5 0 = 0 | restore = 1 | pull 5 0 = 5 | point 0 0 0 = 5",
             // Six steps known then are known again, whatever came since.
             "weight 0 2 | weight 0 3 | weight 0 4 | weight 0 5 | weight 0 6 | weight 0 7 | weight 0 8 | image = 1 | drift 40 | restore = 1 | count 8 = 6 | undo = 5 | weight 0 7 = -2"
                 + " | undo = 4 | undo = 3 | undo = 2 | undo = 1 | undo = 0 | weight 0 2 = -2 | undo = -4 | restore = 1 | undo = 5",

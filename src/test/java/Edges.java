@@ -43,6 +43,11 @@ final class Edges {
         }
     }
 
+    /** An answer outside of a run for a sentence. */
+    void due(String call, long got, long want) {
+        check.due(call, got, want);
+    }
+
     private void follow(String sentence, List<Call> run) {
         ForceFrames x = new ForceFrames();
         List<Call> all = new ArrayList<>();

@@ -9,6 +9,13 @@ public final class FaceEdgeTest {
     /** A wheel and a joint alone: it has stresses, but is not whole. */
     private static final String WITH_ONE_ALONE = "tell <00,50,05,11,55;01,12,02,03,13,23> = 6\n";
 
+    /** WHEEL3, told so that its first half bar is one of OUTER, and so that its third is. */
+    private static final String FLIPPED = "tell <50,00,05,11;01,12,02,03,13,23> = 6\n";
+    private static final String OUTER_IS_2 = "tell <50,00,05,11;03,01,12,02,13,23> = 6\n";
+    private static final String TWO_STRESSES = "tell <00,50,05,11,22;01,12,02,03,13,23,34,14,24> = 9\n";
+    /** A triangle within another: the bars between are 1, those without -1/5, those within 1/2. */
+    private static final String PRISM = "tell <00,50,05,11,31,13;03,14,25,01,12,02,34,45,35> = 9\n";
+
     private FaceEdgeTest() {
     }
 
@@ -123,7 +130,11 @@ public final class FaceEdgeTest {
             WITH_ONE_ALONE + "point 0 0 0 = -4 | point 3 1 2 = -4 | point 4 0 0 = -1 | lose 4 = 6 | point 0 0 0 = 5");
         EDGES.edge("that of OUTER is 0, 0",
             WHEEL3 + "count 6 = 1 | point 1 0 0 = 0 | point 1 0 1 = 1 | point 1 0 2 = 0 | point 1 1 0 = 0 | point 1 1 1 = 1 | point 1 1 2 = 0",
-            PATH6 + "point 0 0 0 = 0 | point 0 0 1 = 1 | point 0 1 0 = 0 | point 0 1 2 = 0");
+            PATH6 + "point 0 0 0 = 0 | point 0 0 1 = 1 | point 0 1 0 = 0 | point 0 1 2 = 0",
+            // OUTER may be FACE 0, or a FACE that was another one ahead.
+            FLIPPED + "count 6 = 0 | point 0 0 0 = 0 | point 0 1 0 = 0 | point 1 0 0 = 5 | point 1 0 2 = 1 | point 1 1 0 = 0 | height 3 0 = 5",
+            WHEEL3 + "point 0 0 0 = 5 | point 2 0 0 = 5 | " + OUTER_IS_2 + "count 6 = 2 | point 2 0 0 = 0 | point 2 1 0 = 0 | plane 2 0 0 = 0 | plane 2 1 0 = 0 | plane 2 2 0 = 0",
+            WHEEL3 + "point 0 0 0 = 5 | " + FLIPPED + "point 0 0 0 = 0 | plane 0 1 0 = 0");
         EDGES.edge("for each HALF BAR the POINT of its FACE is that of the FACE of its WAY BACK, its FORCE added.",
             WHEEL3 + "weight 0 0 = 10 | point 0 0 0 = 0 | point 0 0 1 = 1 | point 0 0 2 = 0 | weight 0 -9 = 9 | point 0 0 0 = 45 | point 0 0 2 = 2");
     }
@@ -139,6 +150,11 @@ public final class FaceEdgeTest {
         EDGES.edge("A, B, C of OUTER are 0",
             WHEEL3 + "plane 1 0 0 = 0 | plane 1 0 1 = 1 | plane 1 1 0 = 0 | plane 1 1 2 = 0 | plane 1 2 0 = 0 | plane 1 2 1 = 1 | plane 1 2 2 = 0",
             PATH6 + "plane 0 0 0 = 0 | plane 0 1 0 = 0 | plane 0 2 0 = 0 | plane 0 2 1 = 1");
+        EDGES.edge("and both have the same z at both its JOINTS.",
+            // The inner triangle is FACE 4: level, and 1 below.
+            PRISM + "face 4 1 = 4 | face 4 0 = 3 | plane 4 0 0 = 0 | plane 4 1 0 = 0 | plane 4 2 0 = 1 | plane 4 2 1 = 1 | plane 4 2 2 = 2",
+            // FACE 0 goes up from bar 0 by B, 5 times 2; FACE 2 from bar 1 by A and B, both -5 times -3, with C 25 times -3.
+            TWO_STRESSES + "weight 0 2 = 10 | weight 1 -3 = 9 | plane 0 0 0 = 0 | plane 0 1 0 = 10 | plane 0 1 2 = 1 | plane 0 2 0 = 0 | plane 2 0 0 = 15 | plane 2 0 2 = 1 | plane 2 1 0 = 15 | plane 2 1 2 = 1 | plane 2 2 0 = 75 | plane 2 2 2 = 2");
     }
 
     private static void height() {
@@ -148,6 +164,13 @@ public final class FaceEdgeTest {
             "height 0 0 = -1 | joint 0 0 = 0 | height 0 0 = -4 | height 1 0 = -1 | height 0 3 = -1 | joint 1 0 = 1 | height 1 2 = -4 | bar 0 1 = 0 | height 1 0 = 0 | height 1 1 = 1",
             APART + "height 3 0 = -4 | height 4 0 = -1 | height -1 0 = -1 | height 0 3 = -1 | height 0 -1 = -1",
             WITH_ONE_ALONE + "height 3 0 = -4 | height 4 0 = -4 | height 5 0 = -1 | lose 4 = 6 | height 3 0 = 5 | height 4 0 = -1",
+            // Bar 0 is 2 and lifts joint 3 by 5 times that; bar 1 is -3 and lifts joint 4 likewise.
+            TWO_STRESSES + "weight 0 2 = 10 | weight 1 -3 = 9 | height 0 0 = 0 | height 1 0 = 0 | height 2 0 = 0 | height 3 0 = 10 | height 3 2 = 1 | height 4 0 = 15 | height 4 2 = 2",
+            // An inner triangle that no bar parts from OUTER by itself: all of it goes down by 1.
+            PRISM + "height 0 0 = 0 | height 2 0 = 0 | height 3 0 = 1 | height 3 2 = 2 | height 4 0 = 1 | height 4 2 = 2 | height 5 0 = 1 | height 5 2 = 2",
+            // A free end within a face: 25/3 less 5/3 for each of x and y, at (2,2).
+            "tell <22,00,50,05,11;04,12,23,13,14,24,34> = 7 | height 0 0 = 5 | height 0 1 = 3 | height 0 2 = 1 | height 4 0 = 5 | height 4 1 = 1",
+            "tell <00,50,05,11,22;01,12,02,03,13,23,34> = 7 | height 4 0 = 5 | height 4 1 = 3 | height 3 0 = 5 | height 3 1 = 1",
             WHEEL3 + "weight 0 -9 = 10 | height 3 0 = 45 | height 3 2 = 2 | weight 0 0 = 0 | height 3 0 = 0 | height 3 1 = 1 | height 3 2 = 0");
     }
 

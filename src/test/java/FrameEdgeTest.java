@@ -7,6 +7,10 @@ public final class FrameEdgeTest {
     /** Six joints and nine bars without a stress: stiff, and each bar is needed. */
     private static final String STIFF9 = "tell <00,50,05,11,31,12;01,12,02,34,45,35,03,14,25> = 9\n";
 
+    private static final String NINE_WEIGHTS = "weight 0 -9 | weight 1 9 | weight 2 1 | weight 3 2 | weight 4 3 | weight 5 4 | weight 6 5 | weight 7 6 | weight 8 -7\n";
+    private static final String ALL_STAY = " | weight 0 -9 = -2 | weight 1 9 = -2 | weight 2 1 = -2 | weight 3 2 = -2 | weight 4 3 = -2"
+        + " | weight 5 4 = -2 | weight 6 5 = -2 | weight 7 6 = -2 | weight 8 -7 = -2 | count 7 = 95";
+
     private FrameEdgeTest() {
     }
 
@@ -46,7 +50,13 @@ public final class FrameEdgeTest {
             "weight 0 0 = 10 | weight 1 1 = 9 | weight 8 1 = 9",
             "weight 0 7 = 10 | weight 8 -9 = 9 | " + FULL_FRAME + " weight 0 7 = -2 | weight 8 -9 = -2 | count 7 = 79",
             "joint 0 0 = 0 | weight 3 2 = 9 | lose 0 = 0 | weight 3 2 = -2 | count 7 = 84",
-            WHEEL3 + "weight 0 5 = 10 | out 0 = 5 | weight 0 5 = -2 | move 3 2 2 = 3 | weight 0 5 = -2");
+            WHEEL3 + "weight 0 5 = 10 | out 0 = 5 | weight 0 5 = -2 | move 3 2 2 = 3 | weight 0 5 = -2",
+            WHEEL3 + NINE_WEIGHTS + "lose 3 = 3" + ALL_STAY,
+            WHEEL3 + NINE_WEIGHTS + "out 5 = 5" + ALL_STAY,
+            WHEEL3 + NINE_WEIGHTS + "move 3 2 2 = 3" + ALL_STAY,
+            WHEEL3 + NINE_WEIGHTS + "joint 5 5 = 4 | bar 4 1 = 6" + ALL_STAY,
+            NINE_WEIGHTS + WHEEL3 + "lose 0 = 3 | lose 0 = 1 | lose 0 = 0 | lose 0 = 0" + ALL_STAY,
+            NINE_WEIGHTS + FULL_FRAME + "tell <55> = 0" + ALL_STAY);
         EDGES.edge("THE DRAW is a number of 31 bits (1 at first)", "seed 5 = 1 | seed 5 = 5");
         EDGES.edge("sheets 0 .. 3: nothing (at first)",
             "what 0 0 0 = -11 | film 1 1 0 = -11 | item 2 2 0 5 = -11 | copy 3 0 3 0 0 = -11");
@@ -157,7 +167,8 @@ public final class FrameEdgeTest {
             WHEEL3 + "lose 0 = 3 | at 0 0 = 5 | at 2 0 = 1 | of 0 0 = 0 | of 0 1 = 1 | of 1 0 = 0 | of 1 1 = 2 | of 2 0 = 1 | of 2 1 = 2",
             WHEEL3 + "lose 1 = 3 | lose 1 = 1 | lose 1 = 0 | count 0 = 1 | lose 0 = 0 | count 0 = 0 | lose 0 = -1",
             FULL_FRAME + "lose 5 = 9 | lose 5 = -1 | count 0 = 5 | count 1 = 9 | lose 4 = 6",
-            "tell <55,00,10;12> = 1 | lose 0 = 1 | of 0 0 = 0 | of 0 1 = 1 | at 0 0 = 0 | at 1 0 = 1 | at 2 0 = -1");
+            "tell <55,00,10;12> = 1 | lose 0 = 1 | of 0 0 = 0 | of 0 1 = 1 | at 0 0 = 0 | at 1 0 = 1 | at 2 0 = -1",
+            "tell <01,12,23,34,45,50> = 0 | lose 2 = 0 | at 1 0 = 1 | at 1 1 = 2 | at 2 0 = 3 | at 2 1 = 4 | at 3 0 = 4 | at 3 1 = 5 | at 4 0 = 5 | at 4 1 = 0 | at 5 1 = -1");
     }
 
     private static void bar() {
@@ -246,7 +257,10 @@ public final class FrameEdgeTest {
             WHEEL3 + "weight 0 -1 = 10 | pull 1 0 = 1 | pull 1 1 = 3 | pull 1 2 = 2 | weight 0 -9 = 8 | pull 1 0 = 3 | pull 1 1 = 1 | pull 1 2 = 2",
             WHEEL3 + "weight 0 6 = 10 | pull 1 0 = 2 | pull 1 1 = 1 | pull 1 2 = 1",
             FULL_FRAME + "stress 0 1 0 = 0 | stress 0 1 1 = 1 | stress 0 1 2 = 0",
-            "tell <00,50,05;01,12,02> = 3 | pull 0 0 = 0 | pull 0 1 = 1 | pull 0 2 = 0");
+            "tell <00,50,05;01,12,02> = 3 | pull 0 0 = 0 | pull 0 1 = 1 | pull 0 2 = 0",
+            // Whole numbers, in a frame so small that all is above 1 from the first: ring bars 1, spokes -3.
+            "tell <00,11,12,21;23,03,12,13,01,02> = 6 | pull 0 0 = 1 | pull 0 1 = 1 | pull 0 2 = 1 | pull 2 0 = 3 | pull 2 1 = 1 | pull 2 2 = 2 | pull 5 0 = 1",
+            "tell <12,01,20,11;02,03,13,23,01,12> = 6 | pull 0 0 = 1 | pull 1 0 = 3 | pull 1 1 = 1 | pull 1 2 = 2 | pull 5 0 = 1 | pull 5 2 = 1");
     }
 
     private static void pull() {
@@ -277,7 +291,10 @@ public final class FrameEdgeTest {
             WHEEL3 + "fail -1 0 = -1 | fail 11 0 = -1 | fail MIN 0 = -1 | fail MAX 0 = -1 | fail 0 0 = 1 | fail 0 1 = 1 | fail 10 0 = 0 | fail 10 1 = 1",
             "tell <00,10;01> = 1 | fail 1 0 = 9 | fail 1 1 = 10 | fail 2 0 = 4 | fail 2 1 = 5 | fail 5 0 = 1 | fail 5 1 = 2 | fail 9 0 = 1 | fail 9 1 = 10",
             STIFF9 + "fail 0 0 = 1 | fail 0 1 = 1 | fail 1 0 = 387420489 | fail 1 1 = 1000000000 | fail 9 0 = 1 | fail 9 1 = 1000000000 | fail 10 0 = 0 | fail 10 1 = 1",
-            FULL_FRAME + "lose 5 = 9 | fail 0 0 = 1 | fail 0 1 = 1 | fail 10 0 = 0 | fail 10 1 = 1");
+            // Two stresses: 9 bars may fail alone, and 29 pairs (36 less the 7 whose numbers are alike).
+            FULL_FRAME + "lose 5 = 9 | fail 0 0 = 1 | fail 0 1 = 1 | fail 10 0 = 0 | fail 10 1 = 1 | fail 5 0 = 39 | fail 5 1 = 512",
+            FULL_FRAME + "lose 5 = 9 | fail 1 0 = 913547079 | fail 1 1 = 1000000000 | fail 9 0 = 2431 | fail 9 1 = 1000000000",
+            FULL_FRAME + "lose 5 = 9 | fail 5 0 = 39 | out 8 = 8 | fail 5 0 = 7 | fail 5 1 = 256 | undo = 2 | fail 5 0 = 39");
         EDGES.edge("how likely the frame of all others (with all JOINTS) is STIFF.",
             FULL_FRAME + "fail 0 0 = 0 | fail 0 1 = 1 | fail 5 0 = 0 | fail 5 1 = 1",
             "fail 0 0 = 0 | fail 0 1 = 1 | joint 0 0 = 0 | fail 0 0 = 0 | joint 1 0 = 1 | fail 0 0 = 0 | fail 10 0 = 0 | fail 10 1 = 1",

@@ -58,7 +58,10 @@ public final class SheetEdgeTest {
             WHEEL3 + "sheet 0 3 6\n" + put(0, 3, 0, 18, 6, 18, -90, -30, -30) + "what 0 3 0 = 11\n" + put(0, 3, 0, -18, -6, -18, 90, 30, 30) + "what 0 3 0 = 11",
             // Of no BARS none is 0 and none is below 0, and it's a stress.
             "sheet 0 0 0 | what 0 0 0 = 15 | joint 0 0 = 0 | what 0 0 0 = 15 | joint 1 0 = 1 | bar 0 1 = 0 | what 0 0 0 = -13",
-            ONE_BAR + "sheet 0 0 1 | what 0 0 0 = 13 | item 0 0 0 1 | what 0 0 0 = 6 | item 0 0 0 -1 | what 0 0 0 = 2");
+            ONE_BAR + "sheet 0 0 1 | what 0 0 0 = 13 | item 0 0 0 1 | what 0 0 0 = 6 | item 0 0 0 -1 | what 0 0 0 = 2",
+            // At rest by x alone, by y alone: no stress.
+            "tell <00,01;01> = 1 | sheet 0 0 1 | item 0 0 0 1 | what 0 0 0 = 6 | tell <00,10;01> = 1 | what 0 0 0 = 6",
+            "tell <00,22,40;01,12> = 2 | sheet 0 0 2\n" + put(0, 0, 0, 1, 1) + "what 0 0 0 = 6\n" + put(0, 0, 0, 1, -1) + "what 0 0 0 = 2");
     }
 
     private static void whatTheStress() {
@@ -69,7 +72,11 @@ public final class SheetEdgeTest {
             FULL_FRAME + "sheet 0 0 9\n" + put(0, 0, 0, 1, 0, 1, -5, -2, -2, 1, 1, 1) + "what 0 0 0 = 9 | weight 0 0 = 10 | weight 1 2 = 9 | what 0 0 0 = 1",
             FULL_FRAME + "sheet 0 0 9\n" + put(0, 0, 0, 0, 1, 0, 0, 1, 1, -3, -3, -3) + "what 0 0 0 = 1 | weight 0 0 = 10 | weight 1 2 = 9 | what 0 0 0 = 9 | item 0 0 0 1 | what 0 0 0 = 0",
             FULL_FRAME + "weight 0 0 = 10 | weight 1 2 = 9 | sheet 0 0 9\n" + put(0, 0, 0, 0, 1, 0, 1, 1, 1, -3, -3, -3) + "what 0 0 0 = 0",
-            ONE_BAR + "sheet 0 0 1 | item 0 0 0 5 | what 0 0 0 = 6 | weight 0 9 = 10 | what 0 0 0 = 6");
+            ONE_BAR + "sheet 0 0 1 | item 0 0 0 5 | what 0 0 0 = 6 | weight 0 9 = 10 | what 0 0 0 = 6",
+            // 0 where THE STRESS is 0, in the middle, at the end and at the beginning, and yet not alike.
+            FULL_FRAME + "sheet 0 0 9\n" + put(0, 0, 0, 1, 0, 1, 1, 1, 1, 1, 1, 1) + "what 0 0 0 = 4",
+            "tell <00,50,05,11,55;01,12,02,03,13,23,14,24> = 8 | sheet 0 0 8\n" + put(0, 0, 0, 1, 1, 1, 1, 1, 1, 0, 0) + "what 0 0 0 = 4\n" + put(0, 0, 0, 3, 1, 3, -15, -5, -5) + "what 0 0 0 = 9",
+            "tell <00,50,05,11,55;14,24,01,12,02,03,13,23> = 8 | sheet 0 0 8\n" + put(0, 0, 2, 1, 1, 1, 1, 1, 1) + "what 0 0 0 = 4\n" + put(0, 0, 2, 3, 1, 3, -15, -5, -5) + "what 0 0 0 = 9");
     }
 
     private static void what() {
