@@ -12,6 +12,7 @@ import java.util.Set;
 import java.util.TreeSet;
 import java.util.regex.Matcher;
 import java.util.regex.Pattern;
+import javax.lang.model.element.Element;
 
 /** The face of the document, and the rules of LANGUAGE.md that a plain reading of the source can try. */
 public final class LanguageTest {
@@ -122,16 +123,15 @@ public final class LanguageTest {
             CHECK.holds("import " + imports.group(1), Set.of("java.util.Arrays", "java.util.ArrayList", "java.util.List", "java.util.Iterator").contains(imports.group(1)));
         }
         CHECK.holds("no package", !Pattern.compile("(?m)^package").matcher(code).find());
-        int begun = 0;
-        String[] lines = source.split("\n");
-        for (int i = 0; i < lines.length; i++) {
-            String indent = lines[i].replaceAll("\\S.*", "");
-            if (lines[i].endsWith(") {") && (indent.length() == 4 || indent.length() == 8)) {
-                begun = i;
-            }
-            if (lines[i].trim().equals("}") && (indent.length() == 4 || indent.length() == 8)) {
-                CHECK.holds("a method of at most sixty lines ends at " + (i + 1), i - begun < 60 || indent.length() == 4);
-            }
+        checkMethods(Source.of(path));
+    }
+
+    private static void checkMethods(Source source) {
+        CHECK.holds("the source has methods", source.methods().size() > FACE.length);
+        for (Element method : source.methods()) {
+            String name = method.getEnclosingElement() + "." + method;
+            CHECK.holds(name + " has at most sixty lines", source.linesOf(method) <= 60);
+            CHECK.holds(name + " goes at most eight calls deep", source.depthOf(method) <= 8);
         }
     }
 }
